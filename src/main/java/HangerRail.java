@@ -840,14 +840,10 @@ public final class HangerRail {
             return back >> h & 1;
         }
 
-        /** To be asked only while there are fewer than the most. */
+        /** To be asked only while there are fewer than the most; what is beyond them is as in a new rail. */
         int addHanger(int kind) {
             int h = hangers;
             kindOf[h] = kind;
-            placeOf[h] = OUT;
-            slipOf[h] = 0;
-            feelOf[h] = 0;
-            back &= ~(1 << h);
             hangers++;
             return h;
         }

@@ -47,6 +47,7 @@ public final class BestTest {
         due.is("21: the next one", x.first(), 5);
         due.is("21: taken, too", x.take(5, 0), Due.set(5));
         due.is("21: its own shirt stays", x.first(), 1);
+        due.is("21: the first of all", Due.told("wood at 3; wood at 9").first(), 0);
         x.set(1, 3, 0);
         due.is("21: of those that keep most", x.first(), 3);
     }
@@ -93,6 +94,10 @@ public final class BestTest {
         due.is("23: tangled either way", y.facing(), 0);
         HangerRail z = Due.told("wire at 4; wire at 5; wire at 6");
         due.is("23: one pair is left with each of them", z.facing(), Due.set(0));
+        HangerRail backs = Due.told("hanger at 3 back; hanger at 4 back; hanger at 5 back");
+        due.is("23: from back to front", backs.facing(), Due.set(1));
+        HangerRail bars = Due.told("bar at 3; wood at 4 back; bar at 9 back; wood at 10");
+        due.is("23: bars had best face as the other one", bars.facing(), Due.set(0, 2));
         HangerRail six = Due.told("hanger at 0; hanger at 1; hanger at 10; hanger at 11; hanger at 20; hanger at 21");
         due.is("23: two at most", six.facing(), Due.set(0, 2));
     }
@@ -104,6 +109,11 @@ public final class BestTest {
         Due.rail(x, "wire at 2 shirt 4; wire at 4 shirt 4; wire at 6 shirt 4; wire at 20 shirt 4; wire shirt 9");
         due.is("24: lifted, two keep theirs", x.clears(0), 2);
         due.is("24: turned, all fall", x.clears(1), 4);
+        due.is("24: one alone, turned", Due.told("wire at 2 shirt 4").clears(1), 1);
+        due.is("24: one alone, lifted", Due.told("wire at 2 shirt 4").clears(0), 0);
+        // Turned, 0 comes with 1 alone, then 2 with 3; the shirts of all but the second fall.
+        HangerRail y = Due.told("wire at 2 shirt 4; wire at 4 shirt 3; wire at 6 shirt 4; wire at 8 shirt 4");
+        due.is("24: turned in pairs", y.clears(1), 3);
         due.is("24: pushed isn't asked", x.clears(2), Due.BEYOND);
         due.is("24: manner -1", x.clears(-1), Due.BEYOND);
         due.is("24: nothing changes", x.now(4), 25);
@@ -136,6 +146,7 @@ public final class BestTest {
         due.is("26: lost", x.saves(), -2);
         x.price(99);
         due.is("26: dear ones", x.saves(), 295);
+        due.is("26: a pair", Due.told("hanger at 5; hanger at 6").saves(), 6);
         x.face(1);
         due.is("26: none is tangled", x.saves(), 0);
     }
@@ -156,6 +167,7 @@ public final class BestTest {
         due.is("27: 0", x.feels(0), Due.set(3));
         HangerRail far = Due.told("wire at 0 feel 15");
         due.is("27: like in none", far.feels(0), Due.set(0));
+        due.is("27: 15", far.feels(15), Due.set(0));
     }
 
     private static void kind() {

@@ -40,6 +40,9 @@ public final class ComesTest {
         HangerRail x = Due.told("wire at 3; wire; wire at 4");
         due.is("15: the other one is OUT", x.catches(0, 1), 0);
         due.is("15: it is OUT", x.catches(1, 0), 0);
+        HangerRail edge = Due.told("wire; wire at 0");
+        due.is("15: OUT is not next to the left end", edge.catches(0, 1), 0);
+        due.is("15: nor the left end to it", edge.catches(1, 0), 0);
         due.is("15: both ways", x.catches(2, 0), 1);
         due.is("15: one and the same", x.catches(0, 0), Due.BEYOND);
         due.is("15: one and the same, OUT", x.catches(1, 1), Due.BEYOND);
@@ -114,6 +117,8 @@ public final class ComesTest {
         x.face(1);
         due.is("18: the chain is apart", x.heaps(), 5);
         due.is("19: the pair", x.greatest(), 2);
+        due.is("19: one alone", Due.told("wood at 5").greatest(), 1);
+        due.is("19: a pair", Due.told("wire at 5; wood at 7").greatest(), 2);
         HangerRail full = new HangerRail();
         for (int h = 0; h < 12; h++) {
             full.hanger(1);

@@ -32,6 +32,9 @@ public final class SheetsTest {
         due.is("32: still 40 numbers", x.write(0, 39, 7), 0);
         due.is("32: laid anew", x.sheet(0, 8, 40), 40);
         due.is("32: all 0", x.write(0, 39, 7), 0);
+        x.write(0, 0, 7);
+        due.is("32: laid anew once more", x.sheet(0, 8, 40), 40);
+        due.is("32: the first is 0", x.write(0, 0, 7), 0);
         due.is("32: missing", x.sheet(0, 0, 40), 0);
         due.is("32: it is missing", x.write(0, 0, 7), Due.MISSING);
         due.is("32: fewer", x.sheet(0, 8, 2), 2);

@@ -12,6 +12,7 @@ public final class TextTest {
         placesAndNumbers();
         thirteenth();
         nothingChanges();
+        shorterText();
         due.end();
     }
 
@@ -101,6 +102,9 @@ public final class TextTest {
         fault("wire;;wood", 5);
         fault("wire wood", 5);
         fault("wires", 0);
+        fault("wirez", 0);
+        fault("fire", 0);
+        fault("wira", 0);
         fault("wir", 0);
         fault("Wire", 0);
         fault("wirE", 0);
@@ -184,6 +188,28 @@ public final class TextTest {
             due.is("31: of the next hanger " + what, x.of(1, what), want[what]);
         }
         due.is("31: a place that is taken", Due.rail(x, "wire at 3"), -9);
+    }
+
+    /** What an earlier text left behind the end of the tape must not be read. */
+    private static void shorterText() {
+        HangerRail x = new HangerRail();
+        Due.rail(x, "wirewirewire;;;;;;;;");
+        due.is("31: a shorter one", Due.rail(x, "wire"), 1);
+        Due.rail(x, "wire at 1999999;;;;;;");
+        due.is("31: a shorter number", Due.rail(x, "wire at 1"), 1);
+        Due.feed(x, "wire at 22");
+        x.wipe();
+        due.is("31: after wiping", Due.rail(x, "wire at 2"), 1);
+        due.is("31: at 2", x.at(2), 2);
+        HangerRail y = new HangerRail();
+        String word = "wire;".repeat(11);
+        due.is("31: 120 bytes that end in a word", Due.rail(y, word + " ".repeat(120 - 4 - word.length()) + "wire"), 12);
+        HangerRail z = new HangerRail();
+        due.is("31: 120 bytes that end in a number", Due.rail(z, "price" + " ".repeat(113) + "23"), 1);
+        due.is("31: price 23", z.now(5), 23);
+        HangerRail signs = new HangerRail();
+        due.is("31: many items", Due.rail(signs, "price 1;".repeat(14) + "price 22"), 15);
+        due.is("31: the last price", signs.now(5), 22);
     }
 
     private static void fault(String text, int place) {
