@@ -21,6 +21,14 @@ final class Due {
         }
     }
 
+    void same(String call, String got, String want) {
+        asked++;
+        if (!got.equals(want)) {
+            wrong++;
+            System.out.println(call + " was\n    " + got + "\n  due is\n    " + want);
+        }
+    }
+
     void end() {
         System.out.println(asked + " answers, " + wrong + " wrong");
         if (wrong != 0) {
