@@ -235,6 +235,7 @@ public final class LimitsTest {
                 for (int other = 0; other < 24; other++) {
                     if (other != place) {
                         catchesFrom(kind, 0, place, other);
+                        catchesFrom(kind, 1, place, other);
                         catchesFrom(kind, 9, place, other);
                     }
                 }
@@ -257,6 +258,12 @@ public final class LimitsTest {
         int back = caught(kind, Math.abs(other - place), false, slip > 0);
         due.is("15: " + call + ", the other way", x.catches(0, 1), back);
         due.is("13: " + call + ", the other way", x.now(2), back);
+        x.face(0);
+        due.is("15: " + call + ", both back", x.catches(0, 1), same);
+        due.is("14: " + call + ", both back", x.tangled(0), 2 * same);
+        x.face(1);
+        due.is("15: " + call + ", it is back", x.catches(0, 1), back);
+        due.is("14: " + call + ", it is back", x.tangled(1), back);
     }
 
     private static int caught(int kind, int d, boolean same, boolean shirt) {

@@ -221,6 +221,8 @@ public final class NothingAndAllTest {
         twins.asked("23: the least two", two, x -> x.facing(), Due.set(0, 2));
         Supplier<HangerRail> three = () -> Due.told("hanger at 3;hanger at 4;hanger at 13;hanger at 14;hanger at 20;hanger at 21");
         twins.asked("23: never three", three, x -> x.facing(), Due.set(0, 2));
+        Supplier<HangerRail> first = () -> Due.told("hanger at 1;hanger at 11;wood at 0;wood at 2;wood at 10;wood at 12");
+        twins.asked("23: the first two", first, x -> x.facing(), Due.set(0, 1));
         Supplier<HangerRail> last = () -> twelveWithTheLastTwo();
         twins.asked("23: the greatest two", last, x -> x.facing(), Due.set(10, 11));
     }
