@@ -24,7 +24,10 @@ public final class LanguageTest {
     public static void main(String[] args) throws IOException {
         face();
         members(HangerRail.class);
-        words(Files.readString(Path.of("src/main/java/HangerRail.java")));
+        String source = Files.readString(Path.of("src/main/java/HangerRail.java"));
+        words(source);
+        methodsAreShort(source);
+        callsMakeNothing(source);
         due.end();
     }
 
@@ -98,6 +101,30 @@ public final class LanguageTest {
                 same("sign " + (int) c, false);
             }
         }
+    }
+
+    /** Rule 11: some sixty lines at most, from a head to the brace that stands right below its first letter. */
+    private static void methodsAreShort(String source) {
+        Matcher m = Pattern.compile("(?m)^( {4,8})(?! )([\\w\\[\\]. ]+ \\w+\\([^)\\n]*\\)) \\{\\n(?s:(.*?))\\n\\1\\}$").matcher(source);
+        int methods = 0;
+        while (m.find()) {
+            methods++;
+            same("sixty lines of " + m.group(2), m.group(3).lines().count() <= 60);
+        }
+        same("the methods were found", methods > 80);
+    }
+
+    /** Rule 12 and the one room: all rows are made with the object, none by a call. */
+    private static void callsMakeNothing(String source) {
+        int made = 0;
+        for (String line : source.split("\n")) {
+            if (Pattern.compile("\\bnew \\w+[\\[(]").matcher(line).find()) {
+                made++;
+                boolean field = Pattern.matches(" +(private )?final .* = new .*", line);
+                same("made with the object: " + line.strip(), field || line.strip().equals("sheets[s] = new Sheet();"));
+            }
+        }
+        same("what is made was found", made > 10);
     }
 
     private static void same(String what, boolean holds) {
